@@ -99,6 +99,16 @@ public final class PromiseTest {
         return (123 + 534 * x + 823 * x * x) % 1019;
     }
 
+    /** The same secret, with shares at all 24 places. */
+    private static SecretVault fullVault() {
+        SecretVault v = new SecretVault();
+        for (int m = 0; m < 8; m++) {
+            v.setWeight(m, 3);
+        }
+        v.put(0, 123, 3);
+        return v;
+    }
+
     private static int power(int base, int exponent, int modulus) {
         int result = 1;
         for (int i = 0; i < exponent; i++) {
@@ -306,6 +316,15 @@ public final class PromiseTest {
         dueThrow(NONE, () -> v.share(0, 13, 0));
         due("value 0", v.put(3, 0, 8), 8);
         due("event", v.event(0), 103);
+        SecretVault full = fullVault();
+        for (int x = 1; x <= 24; x++) {
+            due("value", full.share(0, x, 0), first(x));
+        }
+        for (int m = 0; m < 8; m++) {
+            full.setWeight(m, 1);
+        }
+        due("earlier shares are removed", full.put(0, 5, 1), 8);
+        dueThrow(NONE, () -> full.share(0, 24, 0));
         putRefusals();
     }
 
@@ -387,6 +406,12 @@ public final class PromiseTest {
         due("greater epoch is stale", v.refresh(1), 7);
         due("then it fits", v.share(1, 1, 2), 0);
         due("and is refreshed", v.refresh(1), 8);
+        SecretVault full = fullVault();
+        due("all places", full.refresh(0), 24);
+        due("all good", full.secret(0, 3), 24);
+        due("the commitments behind the threshold", full.reshare(0, 255, 2), 24);
+        full.refresh(0);
+        due("all good", full.secret(0, 3), 24);
         dueThrow(NONE, () -> v.refresh(2));
         dueThrow(BOUNDS, () -> v.refresh(4));
         dueThrow(BOUNDS, () -> v.refresh(-1));
@@ -531,6 +556,7 @@ public final class PromiseTest {
         v.put(3, 1018, 8);
         due("greatest threshold", v.open(3, 255), 1018);
         due("event", v.event(0), 703);
+        due("the last places", fullVault().open(0, 128), 123);
         v.put(2, 0, 1);
         due("smallest threshold", v.open(2, 64), 0);
         dueThrow(BOUNDS, () -> v.open(4, 256));
@@ -556,6 +582,7 @@ public final class PromiseTest {
         due("no event", v.event(0), 300);
         policy(v, 0, "0&1&2&3&4&5&6&7");
         due("the policy does not matter", v.combine(0, 248 - 32 - 8 + 4), 123);
+        due("the last places", fullVault().combine(0, 128), 123);
         dueThrow(BOUNDS, () -> v.combine(4, 256));
         dueThrow(ARGUMENT, () -> v.combine(1, 256));
         dueThrow(ARGUMENT, () -> v.combine(0, MIN));
@@ -570,6 +597,18 @@ public final class PromiseTest {
         due("one is wrong of four", v.agree(0, 15), false);
         due("at most k", v.agree(0, 7), true);
         due("without it", v.agree(0, 254), true);
+        v.setShare(0, 4, (first(4) + 1) % 1019);
+        due("wrong ones that do not agree", v.agree(0, 15), false);
+        for (int x = 1; x <= 22; x += 3) {
+            v.setShare(0, x, x);
+        }
+        due("all are wrong, but agree", v.agree(0, 255), true);
+        v.seed(1);
+        v.put(0, 123, 3);
+        SecretVault full = fullVault();
+        due("all places", full.agree(0, 255), true);
+        full.setShare(0, 24, (first(24) + 1) % 1019);
+        due("the last place", full.agree(0, 255), false);
         due("none", v.agree(0, 0), true);
         v.setShare(0, 1, first(1));
         v.setShare(0, 22, 0);
@@ -595,6 +634,14 @@ public final class PromiseTest {
         for (int what = 0; what < 7; what++) {
             due("what " + what, v.secret(0, what), want[what]);
         }
+        SecretVault full = fullVault();
+        makeStale(full, 0, 0);
+        makeStale(full, 0, 7);
+        due("stale ones at both ends", full.secret(0, 4), 6);
+        SecretVault spoiled = fullVault();
+        spoiled.setShare(0, 1, (first(1) + 1) % 1019);
+        spoiled.setShare(0, 24, (first(24) + 1) % 1019);
+        due("wrong ones at both ends", spoiled.secret(0, 5), 2);
         policy(v, 0, "0");
         due("policy", v.secret(0, 6), 1);
         dueThrow(BOUNDS, () -> v.secret(4, 7));
@@ -739,6 +786,10 @@ public final class PromiseTest {
         due("wrong", v.bad(0, 0), 4);
         due("stale", v.bad(0, 1), 19);
         due("last place", v.bad(0, 2), 24);
+        v.setShare(0, 1, (v.share(0, 1, 0) + 1) % 1019);
+        due("first place", v.bad(0, 0), 1);
+        due("then the others", v.bad(0, 1), 4);
+        v.expel(0, 0);
         dueThrow(NONE, () -> v.bad(0, 3));
         dueThrow(NONE, () -> v.bad(0, -1));
         dueThrow(NONE, () -> v.bad(0, MAX));
@@ -849,6 +900,10 @@ public final class PromiseTest {
         }
         policy(v, 0, "3of(0,1)");
         due("more than there are", v.fulfils(0, 255), false);
+        policy(v, 0, "9of(0,0,0,0,0,0,0,0,0)");
+        due("nine of nine", v.fulfils(0, 1), true);
+        policy(v, 0, "9of(0,0,0,0,0,0,0,0)");
+        due("nine of eight", v.fulfils(0, 255), false);
         policy(v, 0, "2of(0,0|1,2)");
         due("a member twice", v.fulfils(0, 1), true);
         v.setPresent(0, false);
@@ -955,6 +1010,10 @@ public final class PromiseTest {
             due("index " + i, v.smallest(0, i), sets[i]);
         }
         dueThrow(NONE, () -> v.smallest(0, sets.length));
+        SecretVault w = vault();
+        policy(w, 0, "1&2&3");
+        due("no other member is needed", w.smallest(0, 0), 14);
+        dueThrow(NONE, () -> w.smallest(0, 1));
         v.setPresent(0, false);
         dueThrow(NONE, () -> v.smallest(0, 0));
         due("no report", v.levels(), 0);
@@ -1135,6 +1194,24 @@ public final class PromiseTest {
         v.put(1, 1, 1);
         due("restored", v.restore(), 1);
         dueThrow(NONE, () -> v.secret(0, 0));
+        SecretVault full = fullVault();
+        full.save();
+        full.remove(0);
+        full.restore();
+        due("all places", full.secret(0, 3), 24);
+        for (int i = 0; i < 30; i++) {
+            full.open(0, 255);
+            full.refresh(0);
+        }
+        full.save();
+        for (int i = 0; i < 25; i++) {
+            full.put(1, 1, 1);
+        }
+        full.restore();
+        for (int i = 0; i < 20; i++) {
+            due("event " + i, full.event(i), i % 2 == 0 ? 300 : 700);
+        }
+        due("twenty", events(full), 20);
         dueThrow(NONE, () -> v.secret(1, 0));
         due("no event", v.event(0), 200);
     }
