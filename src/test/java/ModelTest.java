@@ -10,6 +10,8 @@ import java.util.Random;
 
 /** Long runs of calls, each asked of the class and of the model; the answers and exceptions must be the same. */
 public final class ModelTest {
+    /** What later calls of an object answer is free. */
+    private static final int CALLS = 512;
     private static final Map<String, Method> FACE = new HashMap<>();
     private static final Map<String, Method> MODEL = new HashMap<>();
     private static final Map<String, int[]> OUTCOMES = new HashMap<>();
@@ -19,6 +21,7 @@ public final class ModelTest {
     private final SecretVault vault = new SecretVault();
     private final Model model = new Model();
     private final List<String> log = new ArrayList<>();
+    private final List<Object[]> questions = new ArrayList<>();
     private boolean broken;
 
     private ModelTest(long seed) {
@@ -34,7 +37,7 @@ public final class ModelTest {
                 MODEL.put(m.getName(), twin);
             }
         }
-        int runs = args.length > 0 ? Integer.parseInt(args[0]) : 400;
+        int runs = args.length > 0 ? Integer.parseInt(args[0]) : 2000;
         long first = args.length > 1 ? Long.parseLong(args[1]) : 1;
         for (long seed = first; seed < first + runs && wrong < 5; seed++) {
             new ModelTest(seed).run();
@@ -54,11 +57,17 @@ public final class ModelTest {
         }
     }
 
+    /** A run of some length, and then as many of all questions, in any order, as calls are left. */
     private void run() throws Exception {
-        while (log.size() < 500 && !broken) {
+        int length = 20 + random.nextInt(CALLS - 20);
+        while (log.size() < length && !broken) {
             step();
         }
-        dump();
+        gatherQuestions();
+        java.util.Collections.shuffle(questions, random);
+        for (Object[] question : questions) {
+            call((String) question[0], Arrays.copyOfRange(question, 1, question.length));
+        }
     }
 
     // ---- one call of both
@@ -76,7 +85,7 @@ public final class ModelTest {
     }
 
     private Object call(String name, Object... args) throws Exception {
-        if (broken) {
+        if (broken || log.size() >= CALLS) {
             return null;
         }
         Object want = outcome(MODEL.get(name), model, args);
@@ -236,7 +245,7 @@ public final class ModelTest {
         Object answer = call("open", slot(), set());
         if (answer instanceof String || chance(5)) {
             Object levels = call("levels");
-            for (int level = 0; !broken && level < (Integer) levels; level++) {
+            for (int level = 0; levels != null && level < (Integer) levels; level++) {
                 call("report", level, 0);
                 call("report", level, 1);
             }
@@ -290,54 +299,72 @@ public final class ModelTest {
         }
     }
 
-    /** Asks for all that can be asked for. */
-    private void dump() throws Exception {
+    private void later(Object... question) {
+        questions.add(question);
+    }
+
+    /** All that can be asked; of a slot that is empty only few. */
+    private void gatherQuestions() {
         for (int slot = 0; slot < 4; slot++) {
-            for (int what = 0; what < 7; what++) {
-                call("secret", slot, what);
+            if (model.w.slots[slot] != null || chance(5)) {
+                askOfShares(slot);
+                askOfPolicy(slot);
+                askOfGroups(slot);
             }
-            for (int place = 1; place <= 24; place++) {
-                for (int what = 0; what < 3; what++) {
-                    call("share", slot, place, what);
-                }
-                for (int index = -1; index < 14; index++) {
-                    call("shareText", slot, place, index);
-                }
-                call("bad", slot, place - 1);
-            }
-            for (int j = -1; j < 9; j++) {
-                call("commitment", slot, j);
-            }
-            for (int index = -1; index < 41; index++) {
-                call("policyText", slot, index);
-            }
-            for (int what = 0; what < 3; what++) {
-                call("policy", slot, what);
-            }
-            for (int set = 0; set < 256; set++) {
-                call("fulfils", slot, set);
-                call("agree", slot, set);
-                call("combine", slot, set);
-            }
-            call("groups", slot);
-            for (int i = 0; i < 71; i++) {
-                call("smallest", slot, i);
-            }
-            for (int m = 0; m < 8; m++) {
-                call("powerBits", slot, m);
-            }
-            call("healthBits", slot);
         }
         for (int m = 0; m < 8; m++) {
             for (int what = 0; what < 4; what++) {
-                call("member", m, what);
+                later("member", m, what);
             }
         }
         for (int i = 0; i < 21; i++) {
-            call("event", i);
+            later("event", i);
         }
-        call("errorPosition");
-        call("append", 0);
-        call("draw");
+        later("errorPosition");
+        later("append", 0);
+        later("draw");
+    }
+
+    private void askOfShares(int slot) {
+        for (int what = 0; what < 7; what++) {
+            later("secret", slot, what);
+        }
+        for (int place = 1; place <= 24; place++) {
+            for (int what = 0; what < 3; what++) {
+                later("share", slot, place, what);
+            }
+            later("shareText", slot, place, -1);
+            later("shareText", slot, place, random.nextInt(14));
+            later("bad", slot, chance(50) ? place - 1 : place / 6);
+        }
+        for (int j = -1; j < 9; j++) {
+            later("commitment", slot, j);
+        }
+    }
+
+    private void askOfPolicy(int slot) {
+        for (int index = -1; index < 41; index += 1 + random.nextInt(4)) {
+            later("policyText", slot, index);
+        }
+        for (int what = 0; what < 3; what++) {
+            later("policy", slot, what);
+        }
+        for (int i = 0; i < 16; i++) {
+            int set = random.nextInt(256);
+            later("fulfils", slot, set);
+            later("agree", slot, set);
+            later("combine", slot, set);
+        }
+    }
+
+    private void askOfGroups(int slot) {
+        later("groups", slot);
+        for (int i = 0; i < 71; i += 1 + random.nextInt(6)) {
+            later("smallest", slot, i);
+        }
+        for (int m = 0; m < 8; m++) {
+            later("powerBits", slot, m);
+        }
+        later("healthBits", slot);
     }
 }

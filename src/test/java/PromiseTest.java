@@ -931,9 +931,11 @@ public final class PromiseTest {
             {"(((0|1)))&(((2|3)))", "(0|1)&(2|3)"}, {"0|1&(2)", "0|1&2"}, {"0&0|0", "0&0|0"},
         };
         for (String[] row : texts) {
-            policy(v, 0, row[0]);
-            due("text of " + row[0], policyTextOf(v, 0), row[1]);
+            SecretVault w = vault();
+            policy(w, 0, row[0]);
+            due("text of " + row[0], policyTextOf(w, 0), row[1]);
         }
+        policy(v, 0, "0&0|0");
         due("length", v.policyText(0, -1), 5);
         due("last", v.policyText(0, 4), '0');
         dueThrow(NONE, () -> v.policyText(0, 5));
@@ -1044,28 +1046,19 @@ public final class PromiseTest {
     }
 
     private static void healthBits() {
-        SecretVault v = new SecretVault();
-        for (int m = 0; m < 8; m++) {
-            v.setWeight(m, 3);
-        }
-        for (int all = 24; all >= 1; all--) {
-            v.put(0, 5, 1);
-            for (int place = all + 1; place <= 24; place++) {
-                if (place % 3 == 1) {
-                    v.expel(0, (place - 1) / 3);
-                }
+        for (int members = 8; members >= 1; members--) {
+            SecretVault v = fullVault();
+            for (int m = members; m < 8; m++) {
+                v.expel(0, m);
             }
-            int shares = v.secret(0, 2);
+            int shares = 3 * members;
             for (int bad = 0; bad < shares; bad++) {
                 due("bits", v.healthBits(0), Float.floatToIntBits((float) (shares - bad) / (float) shares));
-                int place = 1;
-                while (v.share(0, place, 2) != 0) {
-                    place++;
-                }
-                v.setShare(0, place, 6);
+                v.setShare(0, bad + 1, (first(bad + 1) + 1) % 1019);
             }
             due("none is good", v.healthBits(0), 0);
         }
+        SecretVault v = vault();
         for (int m = 0; m < 8; m++) {
             v.expel(0, m);
         }

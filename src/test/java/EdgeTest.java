@@ -1,0 +1,26 @@
+/**
+ * For each sentence of the document that names a boundary case (too small, too large, empty, full, a wrap-around, a
+ * refused call) a case of its own, which names the promise and quotes the sentence.
+ */
+public final class EdgeTest extends Edges {
+    public static void main(String[] args) {
+        MemberEdges.run();
+        SecretEdges.run();
+        OpeningEdges.run();
+        ShareEdges.run();
+        PolicyEdges.run();
+        GroupEdges.run();
+        ReportEdges.run();
+        ArgumentEdges.run();
+        RefusalEdges.run();
+        for (int promise = 1; promise <= 37; promise++) {
+            if (!PROMISES.contains(promise)) {
+                fault("no case of promise " + promise);
+            }
+        }
+        System.out.println(wrong == 0 ? cases + " edge cases (" + checks + " checks) hold" : wrong + " checks do not hold");
+        if (wrong != 0) {
+            System.exit(1);
+        }
+    }
+}
