@@ -11,6 +11,10 @@ final class ArgumentEdges extends Edges {
         void on(SecretVault v, int number);
     }
 
+    interface Asked {
+        Object on(SecretVault v, int slot);
+    }
+
     static void run() {
         for (SlotCall call : slotCalls()) {
             slots(call);
@@ -30,9 +34,9 @@ final class ArgumentEdges extends Edges {
     }
 
     /** A method with a slot, what its description says of it, and a call that a filled slot answers. */
-    private record SlotCall(int promise, String noSlot, String empty, Numbered call) { }
+    record SlotCall(int promise, String noSlot, String empty, Asked call) { }
 
-    private static List<SlotCall> slotCalls() {
+    static List<SlotCall> slotCalls() {
         List<SlotCall> calls = new ArrayList<>();
         String ofMember = NO_SLOT + " or member";
         String ofPlace = NO_SLOT + " or place";
@@ -224,7 +228,7 @@ final class ArgumentEdges extends Edges {
                 refused("no more", NONE, () -> v.commitment(0, v.secret(0, 0)));
             }
         });
-        edge(7, "p is 1019 and q is 2039, both prime.", () -> {
+        edge(7, "Numbers. p is 1019 and q is 2039, both prime.", () -> {
             due("the greatest value", new SecretVault().put(0, P - 1, 1), 8);
             refused("p itself", ARGUMENT, () -> new SecretVault().put(0, P, 1));
             SecretVault v = new SecretVault();

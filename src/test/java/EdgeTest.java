@@ -4,6 +4,8 @@
  */
 public final class EdgeTest extends Edges {
     public static void main(String[] args) {
+        MeaningEdges.run();
+        MethodEdges.run();
         MemberEdges.run();
         SecretEdges.run();
         OpeningEdges.run();
@@ -15,8 +17,11 @@ public final class EdgeTest extends Edges {
         RefusalEdges.run();
         for (int promise = 1; promise <= 37; promise++) {
             if (!PROMISES.contains(promise)) {
-                fault("no case of promise " + promise);
+                fault("promise " + promise, "no case");
             }
+        }
+        for (String sentence : Document.unquoted()) {
+            fault("document", "no case quotes " + sentence);
         }
         System.out.println(wrong == 0 ? cases + " edge cases (" + checks + " checks) hold" : wrong + " checks do not hold");
         if (wrong != 0) {

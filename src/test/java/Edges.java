@@ -1,7 +1,3 @@
-import java.io.IOException;
-import java.io.UncheckedIOException;
-import java.nio.file.Files;
-import java.nio.file.Path;
 import java.util.NoSuchElementException;
 import java.util.Set;
 import java.util.TreeSet;
@@ -30,7 +26,6 @@ abstract class Edges {
     static int checks;
     static int wrong;
     private static String current = "";
-    private static final String DOCUMENT = document();
 
     interface Body {
         void run();
@@ -43,7 +38,7 @@ abstract class Edges {
         cases++;
         PROMISES.add(promise);
         current = "promise " + promise + ": \"" + sentence + "\"";
-        if (!says(promise, sentence)) {
+        if (!Document.quotes(promise, sentence)) {
             fault("the document does not say this");
         }
         int before = checks;
@@ -58,8 +53,12 @@ abstract class Edges {
     }
 
     static void fault(String what) {
+        fault(current, what);
+    }
+
+    static void fault(String where, String what) {
         wrong++;
-        System.out.println(current + ": " + what);
+        System.out.println(where + ": " + what);
     }
 
     static void due(String what, String got, String want) {
@@ -92,25 +91,6 @@ abstract class Edges {
         } catch (RuntimeException e) {
             return e.getClass().getName();
         }
-    }
-
-    private static String document() {
-        try {
-            return Files.readString(Path.of("../shared/DOC.md")).replaceAll("\\s+", " ");
-        } catch (IOException e) {
-            throw new UncheckedIOException(e);
-        }
-    }
-
-    private static boolean says(int promise, String sentence) {
-        return part("## Description ", "## Promise 1:").contains(sentence)
-            || part("## Promise " + promise + ":", promise == 37 ? "## Not promised" : "## Promise ").contains(sentence);
-    }
-
-    private static String part(String from, String to) {
-        int begin = DOCUMENT.indexOf(from);
-        int end = DOCUMENT.indexOf(to, begin + from.length());
-        return begin < 0 || end < 0 ? "" : DOCUMENT.substring(begin, end);
     }
 
     // ---- vaults to begin with

@@ -83,8 +83,8 @@ final class MemberEdges extends Edges {
                 }
             }
         });
-        edge(1, "member m has the places 3 * m + 1, 3 * m + 2 and 3 * m + 3, of which the first ones, as many as its "
-            + "weight says, are used.", () -> {
+        edge(1, "The shares have places: member m has the places 3 * m + 1, 3 * m + 2 and 3 * m + 3, of which the first ones, "
+            + "as many as its weight says, are used.", () -> {
             SecretVault v = new SecretVault();
             weigh(v, 3, 2, 1, 0, 0, 1, 2, 3);
             v.put(0, 5, 1);

@@ -172,7 +172,7 @@ final class PolicyEdges extends Edges {
     }
 
     /** Reads a text in a new vault; the error position is -1 if it has no error. */
-    private static void reads(String text, int errorPosition) {
+    static void reads(String text, int errorPosition) {
         SecretVault v = vault(1);
         type(v, text);
         due(text, thrownBy(() -> v.setPolicy(0)), errorPosition < 0 ? "none" : ARGUMENT.getName());

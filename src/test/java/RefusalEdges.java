@@ -79,7 +79,7 @@ final class RefusalEdges extends Edges {
         return v;
     }
 
-    private static String answer(java.util.function.Supplier<Object> call) {
+    static String answer(java.util.function.Supplier<Object> call) {
         try {
             return String.valueOf(call.get());
         } catch (RuntimeException e) {
@@ -87,7 +87,7 @@ final class RefusalEdges extends Edges {
         }
     }
 
-    private static String slot(SecretVault v, int slot) {
+    static String slot(SecretVault v, int slot) {
         StringBuilder text = new StringBuilder();
         for (int what = 0; what < 7; what++) {
             int w = what;

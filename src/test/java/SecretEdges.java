@@ -103,7 +103,8 @@ final class SecretEdges extends Edges {
     }
 
     private static void dealing() {
-        edge(7, "the coefficients of a polynomial are a0 = v, and a1 to a(k-1), which are drawn in this order.", () -> {
+        edge(7, "To deal a value v with the threshold k means: the coefficients of a polynomial are a0 = v, and a1 to a(k-1), "
+            + "which are drawn in this order.", () -> {
             for (int k = 1; k <= 8; k++) {
                 SecretVault v = new SecretVault();
                 v.seed(-5);
