@@ -1,6 +1,6 @@
 /**
- * For each sentence of the document that names a boundary case (too small, too large, empty, full, a wrap-around, a
- * refused call) a case of its own, which names the promise and quotes the sentence.
+ * For each sentence of the document cases of their own, which name the promise and quote the sentence; a boundary that it
+ * names (too small, too large, empty, full, a wrap-around, a refused call) has a case for itself.
  */
 public final class EdgeTest extends Edges {
     public static void main(String[] args) {
