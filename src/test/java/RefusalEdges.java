@@ -462,6 +462,16 @@ final class RefusalEdges extends Edges {
         });
         edge(20, FIRST, () -> first(BOUNDS, v -> v.shareText(3, 1, -2), v -> v.shareText(0, 6, -2), v -> v.shareText(3, 25, 0),
             v -> v.shareText(3, 0, 99)));
+        edge(21, FIRST, () -> {
+            first(BOUNDS, v -> v.importShare(4), v -> v.importShare(-1));
+            first(NONE, v -> v.importShare(3));
+            SecretVault v = new SecretVault();
+            refused("an empty slot, and an empty buffer", NONE, () -> v.importShare(0));
+            type(v, "x");
+            refused("an empty slot, and a text with an error", NONE, () -> v.importShare(0));
+            refused("no such slot, and a text with an error", BOUNDS, () -> v.importShare(4));
+            due("error position", v.errorPosition(), -1);
+        });
         edge(22, FIRST, () -> first(BOUNDS, v -> v.bad(4, -1), v -> v.bad(-1, 99)));
         edge(23, FIRST, () -> {
             SecretVault v = new SecretVault();
@@ -470,6 +480,14 @@ final class RefusalEdges extends Edges {
             refused("one that is not allowed", ARGUMENT, () -> v.append(32));
             refused("too many", STATE, () -> v.append(33));
             due("buffer", v.append(0), 40);
+        });
+        edge(24, FIRST, () -> {
+            SecretVault v = new SecretVault();
+            type(v, "0&");
+            refused("an empty slot, and a text with an error", NONE, () -> v.setPolicy(0));
+            refused("no such slot, and a text with an error", BOUNDS, () -> v.setPolicy(-1));
+            due("error position", v.errorPosition(), -1);
+            due("buffer", v.append(0), 2);
         });
         edge(26, FIRST, () -> {
             first(BOUNDS, v -> v.fulfils(4, 256));
